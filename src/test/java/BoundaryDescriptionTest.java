@@ -137,6 +137,7 @@ public final class BoundaryDescriptionTest {
         Due.is("evaluate(3), a term each", x.evaluate(3), 3);
         Due.is("evaluate(1), a true term of the other output alone", x.evaluate(1), 2);
         x.addTerm(1, 0, 1);
+        Due.is("evaluate(3), two terms of output 0", x.evaluate(3), 3);
         x.addTerm(2, 0, 1);
         Due.is("evaluate(3), three terms of output 0", x.evaluate(3), 3);
         Due.is("evaluate(2), the last term alone", x.evaluate(2), 3);
@@ -475,6 +476,13 @@ public final class BoundaryDescriptionTest {
         PlaFolder x = Samples.sized(4, 1);
         x.addTerm(4 + 8, 0, 1);
         best("two folds before the first fold", x, f(0, 2), f(1, 3));
+        // Column 0 folds with 5 alone; then 4 can fold too, but no output: three folds go without column 0.
+        PlaFolder z = Samples.sized(6, 4);
+        z.addTerm(1 + 2 + 4 + 8, 0, 1 + 2 + 4);
+        z.addTerm(1 + 2 + 16, 0, 1 + 8);
+        z.addTerm(2 + 16 + 32, 0, 2 + 4);
+        best("three folds without the first column", z, f(2, 4), f(3, 5), f(7, 9));
+        Due.is("fold(0, 5)", z.fold(0, 5), 1);
         best("no fold of the smallest", Samples.sized(1, 1));
         PlaFolder y = Samples.sized(6, 4);
         y.addTerm(63, 0, 15);
@@ -603,6 +611,14 @@ public final class BoundaryDescriptionTest {
         Due.is("folds()", x.folds(), 5);
         Due.is("rowOf(0)", x.rowOf(0), 1);
         Due.is("errorCount(-2), no part of the state", x.errorCount(-2), 2);
+        PlaFolder y = Samples.full();
+        y.setSize(5, 3);
+        y.addTerm(0, 31, 7);
+        y.addTerm(31, 0, 7);
+        for (int left = 4; left >= 2; left--) {
+            Due.is("undo()", y.undo(), left);
+        }
+        Sight.same("the terms were written over", new Sight(y), new Sight(Samples.full()));
     }
 
     // ---- Errors

@@ -327,7 +327,7 @@ public final class BoundaryStateTest {
     private static void digestOfTheLargest() {
         int[][] sets = new int[10][];
         for (int k = 0; k < 10; k++) {
-            sets[k] = new int[] {k, 32, 1 + k};
+            sets[k] = new int[] {k, Samples.zerosOfFull(k), 1 + k};
         }
         PlaFolder x = Samples.full();
         Due.is("digest() of ten terms", x.digest(), digestFromAnswers(x, sets, 5));
@@ -343,6 +343,7 @@ public final class BoundaryStateTest {
         long first = x.digest();
         Due.is("digest() again", x.digest(), first);
         Twins.harmless("digest()", Samples::worked, y -> y.digest() == first ? 1 : 0, 1);
+        Twins.harmless("digest() of a new object", Samples::fresh, y -> y.digest() == 0 ? 1 : 0, 0);
         Due.is("digest() of a twin", Samples.worked().digest(), first);
     }
 

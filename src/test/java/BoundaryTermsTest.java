@@ -282,7 +282,7 @@ public final class BoundaryTermsTest {
             PlaFolder y = Samples.sized(6, 4);
             for (int k = 0; k < 10; k++) {
                 if (k != term) {
-                    y.addTerm(k, 32, 1 + k);
+                    Samples.addOfFull(y, k);
                 }
             }
             Sight.same("removeTerm(" + term + ")", new Sight(x), new Sight(y));
@@ -291,6 +291,7 @@ public final class BoundaryTermsTest {
 
     private static void removingIsUndone() {
         Twins.undoable("removeTerm(0)", Samples::fullAndFolded, x -> x.removeTerm(0), 9);
+        Twins.undoable("removeTerm(0) without folds", Samples::full, x -> x.removeTerm(0), 9);
         Twins.undoable("removeTerm(9)", Samples::fullAndFolded, x -> x.removeTerm(9), 9);
         Twins.undoable("removeTerm(3)", Samples::worked, x -> x.removeTerm(3), 3);
         Twins.undoable("removeTerm(0), the only one", BoundaryTermsTest::oneTerm, x -> x.removeTerm(0), 0);
@@ -467,6 +468,11 @@ public final class BoundaryTermsTest {
         Due.is("four that cover one another", y.removeRedundant(), 2);
         Due.is("uses(0)", y.uses(0), 0);
         Due.is("uses(1)", y.uses(1), 3);
+        PlaFolder z = Samples.sized(2, 1);
+        z.addTerm(3, 0, 1);
+        z.addTerm(1, 0, 1);
+        Due.is("term 0 alone", z.removeRedundant(), 1);
+        Due.is("uses(1)", z.uses(1), 0);
     }
 
     private static void foldsGoIfATermGoes() {

@@ -21,9 +21,17 @@ final class Samples {
     static PlaFolder full() {
         PlaFolder x = sized(6, 4);
         for (int k = 0; k < 10; k++) {
-            x.addTerm(k, 32, 1 + k);
+            addOfFull(x, k);
         }
         return x;
+    }
+
+    static void addOfFull(PlaFolder x, int k) {
+        x.addTerm(k, zerosOfFull(k), 1 + k);
+    }
+
+    static int zerosOfFull(int k) {
+        return 16 << k % 2;
     }
 
     /** Ten terms and five folds: term k uses the input column k, terms 6 to 9 use none. */

@@ -11,6 +11,10 @@ final class Twins {
     /** The call answers an error code, counts it once, and changes nothing else, in no saved state either. */
     static void refused(String call, Supplier<PlaFolder> make, ToIntFunction<PlaFolder> made, int code) {
         countedOnce(call, make, made, code);
+        changesNothing(call, make, made);
+    }
+
+    private static void changesNothing(String call, Supplier<PlaFolder> make, ToIntFunction<PlaFolder> made) {
         for (int undos = 0; undos <= MOST_SAVED; undos++) {
             PlaFolder x = make.get();
             PlaFolder y = make.get();
@@ -58,6 +62,6 @@ final class Twins {
         for (int c = -6; c <= -2; c++) {
             Due.is(call + ": errorCount(" + c + ")", x.errorCount(c), y.errorCount(c));
         }
-        alike(call, x, y, 0);
+        changesNothing(call, make, made);
     }
 }
