@@ -337,6 +337,46 @@ public final class BoundaryDescriptionTest {
         return last;
     }
 
+    private static void feasibleAtAnyTime() {
+        PlaFolder x = Samples.chainOfTerms();
+        PlaFolder y = Samples.chainOfTerms();
+        int made = 0;
+        for (int u = 0; u < 10; u++) {
+            for (int v = 0; v < 10; v++) {
+                if (x.fold(u, v) > 0) {
+                    made++;
+                    demandHolds(x, u, v);
+                }
+                if (y.fold(9 - u, 9 - v) > 0) {
+                    made++;
+                    demandHolds(y, 9 - u, 9 - v);
+                }
+            }
+        }
+        Due.is("folds made", made, x.folds() + y.folds());
+        x.foldBest();
+        for (int i = 0; i < x.bestUpper(-1); i++) {
+            demandHolds(x, x.bestUpper(i), x.bestLower(i));
+        }
+        x.undo();
+        x.undo();
+        Due.is("folds() before the last one", x.folds(), made - y.folds() - 1);
+    }
+
+    private static void demandHolds(PlaFolder x, int u, int v) {
+        int upper = x.uses(u);
+        int lower = x.uses(v);
+        int terms = x.terms();
+        for (int a = 0; a < terms; a++) {
+            for (int b = 0; b < terms; b++) {
+                if ((upper >> a & 1) == 1 && (lower >> b & 1) == 1) {
+                    Due.is("(" + u + ", " + v + "): term " + a + " above term " + b,
+                        x.rowOf(a) < x.rowOf(b) ? 1 : 0, 1);
+                }
+            }
+        }
+    }
+
     private static void noFoldsAtFirst() {
         PlaFolder x = new PlaFolder();
         Due.is("folds()", x.folds(), 0);
@@ -714,6 +754,8 @@ public final class BoundaryDescriptionTest {
             BoundaryDescriptionTest::eachTermAboveEachTerm);
         say("Folding", "feasible if there is an order of the terms that satisfies all these demands",
             BoundaryDescriptionTest::feasibleSets);
+        say("Folding", "The array has a feasible set of folds at any time",
+            BoundaryDescriptionTest::feasibleAtAnyTime);
         say("Folding", "initially the empty set", BoundaryDescriptionTest::noFoldsAtFirst);
         say("Folding", "the next row is always the term with the lowest number that is not placed yet and above"
             + " which, according to the demands, no unplaced term must lie", BoundaryDescriptionTest::rowsFromTheTop);

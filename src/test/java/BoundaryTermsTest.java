@@ -63,6 +63,17 @@ public final class BoundaryTermsTest {
         }
     }
 
+    private static void bestFoldingOfEachSize() {
+        PlaFolder x = new PlaFolder();
+        Due.is("bestUpper(-1) of a new object", x.bestUpper(-1), 3);
+        for (int inputs = 1; inputs <= 6; inputs++) {
+            for (int outputs = 1; outputs <= 4; outputs++) {
+                x.setSize(inputs, outputs);
+                Due.is("bestUpper(-1) of " + inputs + ", " + outputs, x.bestUpper(-1), inputs / 2 + outputs / 2);
+            }
+        }
+    }
+
     private static void sizeRemovesTermsAndFolds() {
         PlaFolder x = Samples.fullAndFolded();
         Due.is("folds()", x.folds(), 5);
@@ -526,6 +537,7 @@ public final class BoundaryTermsTest {
         say(1, "2 outputs", BoundaryTermsTest::newOutputs);
         say(1, "no terms", BoundaryTermsTest::newHasNoTerms);
         say(2, "Sets the size", BoundaryTermsTest::everySize);
+        say(2, "the size and removes", BoundaryTermsTest::bestFoldingOfEachSize);
         say(2, "removes all terms and folds", BoundaryTermsTest::sizeRemovesTermsAndFolds);
         say(2, "Undoable.", BoundaryTermsTest::sizeIsUndone);
         say(2, "`inputs`: 1 to 6", BoundaryTermsTest::inputsOneToSix);
