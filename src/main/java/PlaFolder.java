@@ -262,6 +262,7 @@ public final class PlaFolder {
     }
 
     public long digest() {
+        findBest();
         long h = DIGEST_START;
         for (int i = 0; i < ERROR_CODES; i++) {
             h = mix(h, errors[i]);
@@ -302,7 +303,6 @@ public final class PlaFolder {
     }
 
     private long mixBest(long start) {
-        findBest();
         long h = mix(start, best.count);
         for (int i = 0; i < best.count; i++) {
             h = mix(h, best.upper[i]);

@@ -13,19 +13,9 @@ import java.util.TreeSet;
 import java.util.regex.Matcher;
 import java.util.regex.Pattern;
 
-// The public face of the document, and the rules of LANGUAGE.md that can be read off the class or its text.
+// The public face, as the document writes it out.
 public final class FaceTest {
     private static final Path SOURCE = Path.of("src/main/java/PlaFolder.java");
-
-    private static final List<String> CONSTANTS = List.of("OUT_OF_RANGE = -2", "NOT_POSSIBLE = -3",
-        "CYCLE = -4", "FULL = -5", "NOTHING_SAVED = -6", "NONE = -1");
-
-    private static final List<String> METHODS = List.of("int setSize(int, int)", "int addTerm(int, int, int)",
-        "int removeTerm(int)", "int terms()", "int literals(int)", "int evaluate(int)", "int onCount(int)",
-        "int isRedundant(int)", "int removeRedundant()", "int uses(int)", "int canFold(int, int)",
-        "int fold(int, int)", "int unfold(int)", "int partner(int)", "int folds()", "int termAt(int)",
-        "int rowOf(int)", "int mustPrecede(int, int)", "int area()", "int span(int)", "int bestUpper(int)",
-        "int bestLower(int)", "int foldBest()", "int undo()", "int errorCount(int)", "long digest()");
 
     private static void same(String what, Set<String> got, List<String> want) {
         Set<String> due = new TreeSet<>(want);
@@ -63,7 +53,7 @@ public final class FaceTest {
                 Due.fault(f + " is static and not final");
             }
         }
-        same("constants", found, CONSTANTS);
+        same("constants", found, Face.constants());
     }
 
     private static void methods() {
@@ -75,7 +65,7 @@ public final class FaceTest {
                 names.add(m.getName());
             }
         }
-        same("methods", found, METHODS);
+        same("methods", found, Face.methods());
         noPrivateTwin(PlaFolder.class, names);
         for (Class<?> inside : PlaFolder.class.getDeclaredClasses()) {
             noPrivateTwin(inside, names);
@@ -86,9 +76,6 @@ public final class FaceTest {
         for (Method m : where.getDeclaredMethods()) {
             if (Modifier.isPrivate(m.getModifiers()) && names.contains(m.getName())) {
                 Due.fault(m + " bears a public name");
-            }
-            if (m.getParameterCount() > 7) {
-                Due.fault(m + " takes too many parameters");
             }
         }
     }
@@ -108,19 +95,17 @@ public final class FaceTest {
         }
     }
 
-    private static void text() throws IOException {
-        String code = Files.readString(SOURCE).replaceAll("(?s)/\\*.*?\\*/", " ").replaceAll("//[^\n]*", " ");
-        Pattern barred = Pattern.compile("\\b(throws?|try|catch|finally|synchronized|assert|package|native|volatile"
-            + "|transient|Object|System\\.(?!arraycopy)\\w+|\\w+Exact|equals|hashCode|toString)\\b|->|::");
-        Matcher m = barred.matcher(code);
+    /** The declarations of the document with its names of the parameters, each once in the source. */
+    private static void declarations() throws IOException {
+        List<String> source = new ArrayList<>();
+        Matcher m = Pattern.compile("(?m)^ *(public [^{;]+?) ?[{;]$").matcher(Files.readString(SOURCE));
         while (m.find()) {
-            Due.fault("LANGUAGE.md bars '" + m.group() + "'");
+            source.add(m.group(1));
         }
-        Matcher imports = Pattern.compile("import\\s+([^;]+);").matcher(code);
-        while (imports.find()) {
-            if (!List.of("java.util.Arrays", "java.util.ArrayList", "java.util.List").contains(imports.group(1))) {
-                Due.fault("LANGUAGE.md does not list " + imports.group(1));
-            }
+        List<String> document = new ArrayList<>(Face.declarations());
+        document.add(0, "public final class PlaFolder");
+        if (!source.equals(document)) {
+            Due.fault("declarations: " + source + ", due is " + document);
         }
     }
 
@@ -128,7 +113,7 @@ public final class FaceTest {
         constants();
         methods();
         classes();
-        text();
+        declarations();
         Due.finish();
     }
 }

@@ -25,7 +25,7 @@ final class Sentence {
     }
 
     /** The text under a head with its own line, or the paragraph that begins with the head. */
-    private static String under(String head) {
+    static String under(String head) {
         String text = "\n" + document() + "\n## ";
         int start = Math.max(text.indexOf("\n## " + head + ":"), text.indexOf("\n## " + head + "\n"));
         String end = "\n## ";
